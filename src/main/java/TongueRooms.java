@@ -289,7 +289,7 @@ public final class TongueRooms {
             return STATE;
         }
         int best = NONE;
-        int least = Integer.MAX_VALUE;
+        int least = PLENTY + 1;
         for (int kind = 0; kind <= LAST_KIND; kind++) {
             House h = copyOfNow();
             h.tongue[r] = kind;
@@ -345,7 +345,7 @@ public final class TongueRooms {
             return BAD;
         }
         int best = NONE;
-        int least = Integer.MAX_VALUE;
+        int least = PLENTY + 1;
         for (int r = 0; r < now.rooms; r++) {
             if (!now.hasTongue(r)) {
                 continue;

@@ -141,7 +141,7 @@ public final class PromisesTest {
         run(4, TWO, "hours 3 = 3", "lag 0 7 = 2", "sky 4 50 = 10", "sheet 0 0 3 = 1", "see 0 0 1 = 1", "keep 1 = 0",
             "'room 1 1 1;room 2 2 2;out 7 8;' = 3", "rule 1 = 0", "rule 2 = 0", "rule 3 = 0", "rule 5 = 0", "wall 0 = 2",
             "outside 0 = 7", "outside 1 = 8", "outside 4 = 10", "room 0 3 = -4", "count 0 = 0", "count 1 = 0", "back 1 = -2",
-            "count 3 = 3");
+            "count 3 = 3", "keep 0 = 0", "'' = 0", "back 0 = -2");
     }
 
     private static void looking() {
@@ -193,6 +193,7 @@ public final class PromisesTest {
                 "hours 0 = 0")));
         run(17, TWO, "runs 0 0 = 0", "runs 7 0 = 6", "runs 7 1 = 3", "runs 7 2 = 39", "runs 5 3 = 10", "runs 7 4 = 1",
             "runs 6 4 = 0", "runs 60 5 = -1", "runs 60 -1 = -1", "runs 61 0 = -1", "runs -1 0 = -1", "rule 1 = 0");
+        run(17, TWO, "hours 7 = 6", "runs 1 0 = 1", "runs 1 1 = 0");
         // 24 20 22 24 20 22 24 and so on
         run(17, "'room 24 3 5;plain 0 22;' = 2", "runs 0 3 = 24", "runs 1 3 = 20", "runs 3 3 = 20", "runs 3 2 = 24");
         run(17, "runs 3 3 = -4", "runs 61 3 = -1", "runs 3 2 = 0", "runs 3 4 = 0");
@@ -201,9 +202,16 @@ public final class PromisesTest {
             "ahead 0 -1 0 = -1", "ahead 2 0 0 = -1", "ahead -1 0 0 = -1", "rule 1 = 0");
         run(19, TWO, "cold 0 20 = 0", "cold 0 19 = 6", "cold 1 99 = 0", "cold 1 9 = -4", "cold 0 100 = -1", "cold 0 -1 = -1",
             "cold 2 0 = -1", "cold -1 0 = -1");
+        run(19, "'room 0 0 0;' = 1", "cold 0 0 = 0");
+        // behind 60 hours at the most: an hour later it is too late
+        run(19, "'room 94 0 1;room 87 1 0;bent 0 29;lazy 1 18;wall 0 1;' = 5", "ahead 0 59 0 = 29", "ahead 0 60 0 = 28",
+            "cold 0 28 = 60", "keep 0 = 0", "alter 0 0 99 = 94", "cold 0 28 = -4");
         run(20, "again = 8", "'room 10 3 0;' = 1", "again = 8", "'room 20 3 0;' = 1", "again = -4");
         // 20 22 24 20 and so on: it comes again behind 3 hours, so behind 24 of whole days
         run(20, "'room 20 3 5;plain 0 22;' = 2", "again = 24", "rule 1 = 0");
+        // behind 56 at the most: one comes again behind 7, the other behind 64
+        run(20, "'room 13 4 4;lazy 0 17;' = 2", "again = 56");
+        run(20, "'room 40 1 5;room 57 1 8;bent 0 26;quick 1 24;wall 0 1;' = 5", "hours 40 = 10", "again = -4");
         // as warm as now, but on then
         run(20, "'room 18 0 0;plain 0 20;' = 2", "again = -4", "hours 1 = 1", "again = 8");
     }
@@ -219,6 +227,7 @@ public final class PromisesTest {
         run(21, "'room 20 5 9;room 50 0 0;plain 0 0;wall 0 0;' = 4", "need 0 1 15 = 0", "need 0 1 16 = 22", "need 0 1 24 = 22",
             "need 0 1 25 = -4", "need 0 0 5 = -1", "need 0 61 5 = -1", "need 0 60 -1 = -1", "need 0 60 100 = -1",
             "need 1 5 5 = -2", "need 2 5 5 = -1", "need -1 5 5 = -1", "need 1 0 5 = -1", "room 0 4 = 0");
+        run(21, "'room 97 0 1;plain 0 0;' = 2", "need 0 1 0 = 0", "need 0 1 98 = 99", "need 0 1 99 = -4");
         run(22, "'room 19 0 1;room 5 0 0;plain 0 20;wall 0 0;' = 4", "kind 0 1 0 = 0", "kind 0 1 1 = 0", "alter 0 0 18 = 19",
             "kind 0 1 0 = 2", "kind 0 1 1 = 0", "alter 0 0 15 = 18", "kind 0 1 0 = 0", "kind 0 1 1 = 1", "kind 0 0 1 = 0",
             "kind 0 61 0 = -1", "kind 0 -1 0 = -1", "kind 0 1 2 = -1", "kind 0 1 -1 = -1", "kind 1 1 0 = -2",
@@ -229,12 +238,15 @@ public final class PromisesTest {
             "swap 1 -1 = -1", "room 0 3 = 0", "room 1 3 = -4");
         run(23, "'room 15 0 0;room 15 0 0;room 30 0 0;plain 0 20;plain 1 18;wall 0 0;wall 1 0;' = 7", "swap 1 0 = 2",
             "swap 1 1 = 1", "mark 1 15 = 18", "swap 1 0 = 2", "swap 1 1 = 0");
+        run(23, "'room 9 0 0;room 15 0 0;room 30 0 0;plain 1 20;wall 0 0;wall 1 0;' = 6", "swap 1 0 = 12", "swap 1 1 = 0");
         // a room that is on keeps it when it gets another tongue, and is not on without one
         run(23, "'room 20 0 0;room 20 0 0;plain 0 22;plain 1 22;wall 0 0;' = 5", "hours 1 = 2", "mark 0 20 = 22",
             "mark 1 20 = 22", "runs 1 0 = 2", "swap 1 0 = -4", "strip 1 = 0", "swap 1 0 = 1", "swap 1 1 = 0");
         run(24, "seal 3 0 = -4", "'room 20 0 0;room 0 0 0;room 0 0 0;plain 0 18;' = 4", "seal 9 0 = 0", "seal 9 1 = 0",
             "seal 0 0 = -4", "seal 61 0 = -1", "seal -1 0 = -1", "seal 9 2 = -1", "seal 9 -1 = -1", "wall 0 = 2", "lag 0 0 = 2",
             "seal 9 0 = -4");
+        run(24, "'room 0 0 0;room 0 0 0;room 20 0 0;plain 2 18;' = 4", "seal 9 0 = 1", "seal 9 1 = 0");
+        run(25, FUSED, "hours 1 = 1", "spare 1 0 0 = 0", "spare 1 0 1 = 0", "spare 1 16 0 = -4");
         run(25, "spare 3 0 0 = -4", "'room 15 0 0;room 30 0 0;room 15 0 0;plain 0 20;plain 1 10;plain 2 20;wall 0 0;wall 1 0;' = 8",
             "spare 1 0 0 = 0", "spare 1 0 1 = 1", "spare 1 15 0 = 0", "spare 1 16 0 = -4", "spare 0 99 0 = 0", "spare 0 99 1 = 0",
             "strip 0 = 0", "spare 1 15 0 = 2", "spare 1 15 1 = 0", "strip 2 = 0", "spare 1 15 0 = 1", "strip 1 = 0",
@@ -252,6 +264,7 @@ public final class PromisesTest {
             "luck 3 1 2 20 0 = -1", "luck 3 -1 2 20 0 = -1", "luck 3 0 9 20 0 = -1", "luck 3 0 -1 20 0 = -1",
             "luck 3 0 2 100 0 = -1", "luck 3 0 2 -1 0 = -1", "luck 3 0 2 20 2 = -1", "luck 3 0 2 20 -1 = -1", "rule 1 = 0",
             "rule 2 = 0");
+        run(26, FUSED, "luck 3 0 2 0 0 = 1", "luck 3 0 2 99 0 = 0");
         // 8 hours of warm air alone: it is 1 - (1/10)^8 that not all are blown
         run(26, "'room 0 0 1;plain 0 99;' = 2", "luck 1 0 8 1 0 = 99999999", "luck 1 0 8 1 1 = 100000000");
         // the tongue switches in a blown hour: at 18 it is on, and stays so at 19
@@ -259,7 +272,8 @@ public final class PromisesTest {
             "luck 5 0 2 21 1 = 4");
         run(27, "mean 3 3 0 = 0", "mean 3 3 1 = 1", FUSED, "mean 3 2 0 = 7", "mean 3 2 1 = 5", "mean 0 2 0 = 2", "mean 0 2 1 = 1",
             "mean 10 8 0 = 0", "mean 10 8 1 = 1", "mean 3 0 0 = 0", "mean 11 2 0 = -1", "mean -1 2 0 = -1", "mean 3 9 0 = -1",
-            "mean 3 -1 0 = -1", "mean 3 2 2 = -1", "mean 3 2 -1 = -1", "rule 1 = 0");
+            "mean 3 -1 0 = -1", "mean 3 2 2 = -1", "mean 3 2 -1 = -1", "rule 1 = 0", "hours 1 = 1", "mean 3 1 0 = 7",
+            "mean 3 1 1 = 10");
     }
 
     private static void feeling() {
@@ -291,7 +305,8 @@ public final class PromisesTest {
         run(33, "'room 8 9 0;' = 1", "drift 1 1 1 = 35", "drift 1 1 0 = 0", "rule 1 = 0", "room 0 0 = 8", "drift 1 0 0 = -1",
             "drift 1 61 0 = -1", "drift 1 1 2 = -1", "drift 1 1 -1 = -1");
         run(33, "drift 1 1 0 = -2", "drift 1 0 0 = -1");
-        run(33, TWO, "drift 5 1 0 = 1");
+        // 0 becomes 12345, then -740551042: 0 and 21468 are got, so 0 and 28
+        run(33, "'room 10 9 1;plain 0 50;' = 2", "drift 0 1 1 = 2", "drift 0 2 1 = 26", "hours 3 = 3", "drift 0 2 0 = 2");
     }
 
     private static void imaging() {
