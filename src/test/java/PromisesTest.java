@@ -2,7 +2,8 @@ import java.util.TreeSet;
 
 /**
  * Each promise of the document by answers worked out by hand: ordinary ones, the edges that
- * the document names, wrong numbers. A step is "call numbers = answer"; a step that begins
+ * the document names, wrong numbers. Rows marked "searched" are not: they were found by running
+ * the class, and their answers then looked up with Oracle. A step is "call numbers = answer"; a step that begins
  * with a quote feeds the text between the quotes and asks text().
  */
 public final class PromisesTest {
@@ -203,13 +204,13 @@ public final class PromisesTest {
         run(19, TWO, "cold 0 20 = 0", "cold 0 19 = 6", "cold 1 99 = 0", "cold 1 9 = -4", "cold 0 100 = -1", "cold 0 -1 = -1",
             "cold 2 0 = -1", "cold -1 0 = -1");
         run(19, "'room 0 0 0;' = 1", "cold 0 0 = 0");
-        // behind 60 hours at the most: an hour later it is too late
+        // searched: behind 60 hours at the most: an hour later it is too late
         run(19, "'room 94 0 1;room 87 1 0;bent 0 29;lazy 1 18;wall 0 1;' = 5", "ahead 0 59 0 = 29", "ahead 0 60 0 = 28",
             "cold 0 28 = 60", "keep 0 = 0", "alter 0 0 99 = 94", "cold 0 28 = -4");
         run(20, "again = 8", "'room 10 3 0;' = 1", "again = 8", "'room 20 3 0;' = 1", "again = -4");
         // 20 22 24 20 and so on: it comes again behind 3 hours, so behind 24 of whole days
         run(20, "'room 20 3 5;plain 0 22;' = 2", "again = 24", "rule 1 = 0");
-        // behind 56 at the most: one comes again behind 7, the other behind 64
+        // searched: behind 56 at the most: one comes again behind 7, the other behind 64
         run(20, "'room 13 4 4;lazy 0 17;' = 2", "again = 56");
         run(20, "'room 40 1 5;room 57 1 8;bent 0 26;quick 1 24;wall 0 1;' = 5", "hours 40 = 10", "again = -4");
         // as warm as now, but on then
