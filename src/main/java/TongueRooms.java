@@ -1115,8 +1115,8 @@ public final class TongueRooms {
                 nextToken();
             }
             if (token != SEMICOLON) {
-                // the document has whatever stands behind eight for a 9th outside
-                fail(h == DAY ? 5 : 2, start);
+                // any token behind eight counts as a 9th outside; the end is no token, so none stands there
+                fail(h == DAY && token != END_TOKEN ? 5 : 2, start);
             }
         }
 

@@ -234,6 +234,7 @@ final class Oracle {
                 out = true;
                 int h = 0;
                 for (Token v = next(it); v.sort != ';'; v = next(it)) {
+                    if (v.sort == '.') throw new Fault(2, v.place);
                     if (h == 8) throw new Fault(5, v.place);
                     draft.out[h++] = number(v, 99);
                 }

@@ -113,6 +113,12 @@ public final class PromisesTest {
         text("plain 0;", -17, 2);
         text("out 1 room", -16, 2);
         text("out 1", -15, 2);
+        text("out", -13, 2);
+        text("out 1 2 3 4 5 6 7", -27, 2);
+        // the end behind eight outsides is no 9th one
+        text("out1 2 3 4 5 6 7 8", -28, 2);
+        text("out 1 2 3 4 5 6 7 8  ", -31, 2);
+        text("room 1 2 3;out 1 2 3 4 5 6 7 8", -40, 2);
         text("room 1 2 3;;", -21, 2);
         // 3: bounds
         text("room 1 10 1;", -17, 3);
@@ -129,7 +135,10 @@ public final class PromisesTest {
         // 5: too many
         text("room 1 1 1;room 1 1 1;room 1 1 1;room 1 1 1;room 1 1 1;room 1 1 1;room $", -76, 5);
         text("out 1 2 3 4 5 6 7 8 9;", -30, 5);
+        text("out 1 2 3 4 5 6 7 8 9", -30, 5);
         text("out 1 2 3 4 5 6 7 8 room", -30, 5);
+        text("out 1 2 3 4 5 6 7 8room;", -29, 5);
+        text("out 1 2 3 4 5 6 7 8 $", -30, 1);
         text("out 1 2 3 4 5 6 7 8 999;", -30, 1);
         // 6: behind all
         text("plain 5 1;", -20, 6);
