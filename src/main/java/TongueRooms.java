@@ -1112,11 +1112,21 @@ public final class TongueRooms {
             while (h < DAY && token == NUMBER) {
                 draft.skyAt[h] = tokenValue();
                 h++;
+                if (h == DAY) {
+                    refuseNinth();
+                }
                 nextToken();
             }
             if (token != SEMICOLON) {
-                // any token behind eight counts as a 9th outside; the end is no token, so none stands there
-                fail(h == DAY && token != END_TOKEN ? 5 : 2, start);
+                fail(2, start);
+            }
+        }
+
+        /** Looks ahead of reading a token, for a 9th outside is one too many whether it is a number, a token, or not. */
+        private void refuseNinth() {
+            int place = placeOfNext();
+            if (place < length && sortOf(tape[place]) != SEMICOLON) {
+                fail(5, place);
             }
         }
 
@@ -1149,10 +1159,7 @@ public final class TongueRooms {
 
         /** Reads a token, or the end, behind the one before. */
         private void nextToken() {
-            start = behind;
-            while (start < length && tape[start] == ' ') {
-                start++;
-            }
+            start = placeOfNext();
             behind = start;
             token = start < length ? sortOf(tape[start]) : END_TOKEN;
             if (token == SEMICOLON) {
@@ -1167,6 +1174,15 @@ public final class TongueRooms {
                 token = NO_TOKEN;
                 fail(1, start);
             }
+        }
+
+        /** Where the next token begins, or the length. */
+        private int placeOfNext() {
+            int place = behind;
+            while (place < length && tape[place] == ' ') {
+                place++;
+            }
+            return place;
         }
 
         private static int sortOf(int c) {

@@ -233,9 +233,10 @@ final class Oracle {
                 if (out) throw new Fault(4, t.place);
                 out = true;
                 int h = 0;
-                for (Token v = next(it); v.sort != ';'; v = next(it)) {
+                for (Token v = it.next(); v.sort != ';'; v = it.next()) {
                     if (v.sort == '.') throw new Fault(2, v.place);
                     if (h == 8) throw new Fault(5, v.place);
+                    if (v.sort == '?') throw new Fault(1, v.place);
                     draft.out[h++] = number(v, 99);
                 }
             } else {

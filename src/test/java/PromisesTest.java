@@ -138,8 +138,23 @@ public final class PromisesTest {
         text("out 1 2 3 4 5 6 7 8 9", -30, 5);
         text("out 1 2 3 4 5 6 7 8 room", -30, 5);
         text("out 1 2 3 4 5 6 7 8room;", -29, 5);
-        text("out 1 2 3 4 5 6 7 8 $", -30, 1);
-        text("out 1 2 3 4 5 6 7 8 999;", -30, 1);
+        // a 9th outside, whether it is a number or not
+        text("out 1 2 3 4 5 6 7 8 123 ;", -30, 5);
+        text("out 1 2 3 4 5 6 7 8 999;", -30, 5);
+        text("out 1 2 3 4 5 6 7 8   100", -32, 5);
+        text("room 1 1 1;out1 2 3 4 5 6 7 8 0000;", -40, 5);
+        text("out 1 2 3 4 5 6 7 8 $", -30, 5);
+        text("out 1 2 3 4 5 6 7 8$;", -29, 5);
+        text("out 1 2 3 4 5 6 7 8\t;", -29, 5);
+        text("out 1 2 3 4 5 6 7 8 9 123;", -30, 5);
+        // an 8th one that is none, and what stands behind the line, are no 9th one
+        text("out 1 2 3 4 5 6 7 123;", -28, 1);
+        text("out 1 2 3 4 5 6 7 $;", -28, 1);
+        text("out 1 2 3 4 5 6 7 room;", -28, 2);
+        text("out 1 2 3 4 5 6 7 888 9;", -28, 1);
+        text("out 1 2 3 4 5 6 7 8;123", -30, 1);
+        text("out 1 2 3 4 5 6 7 8 ;$", -31, 1);
+        text("out 1 2 3 4 5 6 7 8;9", -30, 2);
         // 6: behind all
         text("plain 5 1;", -20, 6);
         text("plain 0 1;", -20, 6);
