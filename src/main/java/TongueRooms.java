@@ -1122,10 +1122,11 @@ public final class TongueRooms {
             }
         }
 
-        /** Looks ahead of reading a token, for a 9th outside is one too many whether it is a number, a token, or not. */
+        /** Looks ahead of reading a token, for figures too long for a number are a 9th one too, as a name is. */
         private void refuseNinth() {
             int place = placeOfNext();
-            if (place < length && sortOf(tape[place]) != SEMICOLON) {
+            int sort = place < length ? sortOf(tape[place]) : END_TOKEN;
+            if (sort == NUMBER || sort == NAME) {
                 fail(5, place);
             }
         }

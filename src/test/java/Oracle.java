@@ -234,7 +234,9 @@ final class Oracle {
                 out = true;
                 int h = 0;
                 for (Token v = it.next(); v.sort != ';'; v = it.next()) {
+                    boolean figures = v.text.matches("[0-9]+");
                     if (v.sort == '.') throw new Fault(2, v.place);
+                    if (v.sort == '?' && !figures) throw new Fault(1, v.place);
                     if (h == 8) throw new Fault(5, v.place);
                     if (v.sort == '?') throw new Fault(1, v.place);
                     draft.out[h++] = number(v, 99);

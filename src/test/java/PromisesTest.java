@@ -143,10 +143,18 @@ public final class PromisesTest {
         text("out 1 2 3 4 5 6 7 8 999;", -30, 5);
         text("out 1 2 3 4 5 6 7 8   100", -32, 5);
         text("room 1 1 1;out1 2 3 4 5 6 7 8 0000;", -40, 5);
-        text("out 1 2 3 4 5 6 7 8 $", -30, 5);
-        text("out 1 2 3 4 5 6 7 8$;", -29, 5);
-        text("out 1 2 3 4 5 6 7 8\t;", -29, 5);
+        text("out 1 2 3 4 5 6 7 8 123$;", -30, 5);
+        text("out 1 2 3 4 5 6 7 8 9$;", -30, 5);
         text("out 1 2 3 4 5 6 7 8 9 123;", -30, 5);
+        // what begins no token behind eight outsides is no 9th one
+        text("out1 1 2 3 4 5 6 7\0", -28, 1);
+        text("out 1 2 3 4 5 6 7 8 $", -30, 1);
+        text("out 1 2 3 4 5 6 7 8$;", -29, 1);
+        text("out 1 2 3 4 5 6 7 8\t;", -29, 1);
+        text("out 1 2 3 4 5 6 7 8  $9;", -31, 1);
+        text("out 1 2 3 4 5 6 7 8 A;", -30, 1);
+        text("out 1 2 3 4 5 6 7 8 -9;", -30, 1);
+        text("room 1 1 1;out1 2 3 4 5 6 7 8\177;", -39, 1);
         // an 8th one that is none, and what stands behind the line, are no 9th one
         text("out 1 2 3 4 5 6 7 123;", -28, 1);
         text("out 1 2 3 4 5 6 7 $;", -28, 1);
