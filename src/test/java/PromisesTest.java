@@ -3,8 +3,7 @@ import java.util.TreeSet;
 /**
  * Each promise of the document by answers worked out by hand: ordinary ones, the edges that
  * the document names, wrong numbers. Rows marked "searched" are not: they were found by running
- * the class, and their answers then looked up with Oracle. A step is "call numbers = answer"; a step that begins
- * with a quote feeds the text between the quotes and asks text().
+ * the class, and their answers then looked up with Oracle. What a step is stands in Steps.
  */
 public final class PromisesTest {
     private static int wrong = 0;
@@ -17,60 +16,17 @@ public final class PromisesTest {
 
     private static void run(int promise, String... steps) {
         TESTED.add(promise);
-        Subject subject = new Subject();
-        for (String step : steps) {
-            int equals = step.lastIndexOf(" = ");
-            long want = Long.parseLong(step.substring(equals + 3).trim());
-            long got = step.startsWith("'") ? told(subject, step.substring(1, step.lastIndexOf('\'')))
-                : answer(subject, step.substring(0, equals).trim().split(" +"));
-            if (got != want) {
-                wrong++;
-                System.out.println("promise " + promise + ": " + step + " but answered " + got);
-            }
-        }
-    }
-
-    private static long told(Subject subject, String text) {
-        for (char c : text.toCharArray()) subject.call("feed", c);
-        return subject.call("text");
-    }
-
-    private static long answer(Subject subject, String[] words) {
-        int[] a = new int[words.length - 1];
-        for (int i = 0; i < a.length; i++) a[i] = Integer.parseInt(words[i + 1]);
-        return subject.call(words[0], a);
-    }
-
-    /** The same call with numbers from a to b, each of which has the same answer. */
-    private static String[] each(int a, int b, String before, String behind) {
-        String[] steps = new String[b - a + 1];
-        for (int i = a; i <= b; i++) steps[i - a] = before + i + behind;
-        return steps;
-    }
-
-    private static String[] joined(String[]... parts) {
-        return java.util.Arrays.stream(parts).flatMap(java.util.Arrays::stream).toArray(String[]::new);
-    }
-
-    private static String[] of(String... steps) {
-        return steps;
+        wrong += Steps.wrongOf("promise " + promise, steps);
     }
 
     private static void newObject() {
-        run(1, joined(each(0, 5, "rule ", " = 0"), of("rule 6 = 10"), each(0, 7, "outside ", " = 10"),
-            each(0, 3, "lay ", " 0 0 = -11"), each(0, 2, "count ", " = 0"),
-            of("count 3 = -4", "count 4 = 0", "count 5 = 0", "fault = 0", "torn = 0", "room 0 0 = -1", "wall 0 = -1",
-                "back 0 = -2", "back 1 = -2")));
+        run(1, "rule 0..5 = 0", "rule 6 = 10", "outside 0..7 = 10", "lay 0..3 0 0 = -11", "count 0..2 = 0", "count 3 = -4",
+            "count 4..5 = 0", "fault = 0", "torn = 0", "room 0 0 = -1", "wall 0 = -1", "back 0..1 = -2");
     }
 
     private static void tape() {
         run(2, "feed -1 = -1", "feed 128 = -1", "feed 0 = 1", "feed 127 = 2", "count 2 = 2");
-        Subject s = new Subject();
-        for (int i = 1; i <= 160; i++) if (s.call("feed", 32) != i) wrong++;
-        if (s.call("feed", 32) != -3 || s.call("feed", 128) != -1 || s.call("count", 2) != 160) {
-            wrong++;
-            System.out.println("promise 2: a full tape");
-        }
+        run(2, "feed 32 = _ *159", "feed 32 = 160", "feed 32 = -3", "feed 128 = -1", "count 2 = 160");
         run(3, "end 0 = 0", "end 1 = -1", "feed 59 = 1", "feed 59 = 2", "end 3 = -1", "end -1 = -1", "count 2 = 2",
             "end 2 = 2", "end 1 = 2", "count 2 = 1", "feed 32 = 2", "end 0 = 2", "count 2 = 0");
     }
@@ -221,9 +177,8 @@ public final class PromisesTest {
             "room 0 0 = 9", "room 1 0 = 0", "room 2 0 = 9", "room 3 0 = 99");
         // the outside of each hour of the day
         run(16, "'room 10 9 0;out 0 99;' = 2", "hours 1 = 0", "room 0 0 = 1", "hours 1 = 0", "room 0 0 = 89");
-        run(16, joined(repeated("hours 48 = 0", 20),
-            of("rule 1 = 960", "hours 40 = -3", "rule 1 = 960", "hours 49 = -1", "hours 39 = 0", "rule 1 = 999", "hours 1 = -3",
-                "hours 0 = 0")));
+        run(16, "hours 48 = 0 *20", "rule 1 = 960", "hours 40 = -3", "rule 1 = 960", "hours 49 = -1", "hours 39 = 0",
+            "rule 1 = 999", "hours 1 = -3", "hours 0 = 0");
         run(17, TWO, "runs 0 0 = 0", "runs 7 0 = 6", "runs 7 1 = 3", "runs 7 2 = 39", "runs 5 3 = 10", "runs 7 4 = 1",
             "runs 6 4 = 0", "runs 60 5 = -1", "runs 60 -1 = -1", "runs 61 0 = -1", "runs -1 0 = -1", "rule 1 = 0");
         run(17, TWO, "hours 7 = 6", "runs 1 0 = 1", "runs 1 1 = 0");
@@ -247,12 +202,6 @@ public final class PromisesTest {
         run(20, "'room 40 1 5;room 57 1 8;bent 0 26;quick 1 24;wall 0 1;' = 5", "hours 40 = 10", "again = -4");
         // as warm as now, but on then
         run(20, "'room 18 0 0;plain 0 20;' = 2", "again = -4", "hours 1 = 1", "again = 8");
-    }
-
-    private static String[] repeated(String step, int n) {
-        String[] steps = new String[n];
-        java.util.Arrays.fill(steps, step);
-        return steps;
     }
 
     private static void best() {
@@ -373,9 +322,9 @@ public final class PromisesTest {
         run(38, TWO, "sheet 2 1 6 = 1", "lay 2 1 30 = 1", "lay 2 2 1 = 1", "read 3 1 0 1 = 0", "torn = 1", "read 2 1 0 3 = -21",
             "rule 1 = 0", "room 0 4 = 22", "torn = 1", "lay 2 2 2 = 1", "read 2 1 0 3 = -21", "lay 2 2 0 = 1", "lay 2 3 100 = 1",
             "read 2 1 0 3 = -21", "lay 2 3 99 = 1", "lay 2 5 9 = 1", "read 2 1 0 20 = 3", "torn = 2", "room 0 4 = 9");
-        run(38, joined(of("'room 5 0 0;plain 0 0;' = 2", "sheet 0 0 4 = 1"), repeated("hours 48 = 0", 20),
-            of("hours 38 = 0", "read 0 0 0 2 = -21", "rule 1 = 998", "read 0 0 0 1 = 1", "rule 1 = 999", "read 0 0 0 1 = -20",
-                "torn = 0", "read 0 0 3 1 = 0", "torn = 2", "read 0 0 0 0 = 0", "torn = 0")));
+        run(38, "'room 5 0 0;plain 0 0;' = 2", "sheet 0 0 4 = 1", "hours 48 = 0 *20", "hours 38 = 0", "read 0 0 0 2 = -21",
+            "rule 1 = 998", "read 0 0 0 1 = 1", "rule 1 = 999", "read 0 0 0 1 = -20", "torn = 0", "read 0 0 3 1 = 0",
+            "torn = 2", "read 0 0 0 0 = 0", "torn = 0");
         run(39, TWO, "torn = 0", "read 0 0 0 1 = 0", "torn = 1", "torn = 1", "read 0 0 0 21 = -1", "torn = 1", "sheet 0 0 2 = 1",
             "torn = 1", "read 0 2 0 1 = 0", "torn = 3", "read 0 0 1 1 = 0", "torn = 2", "read 0 0 0 1 = 1", "torn = 0");
         run(40, TWO, "see 0 0 1 = 1", "keep 1 = 0", "feed 1 = 1", "feed 1 = 2", "feed 1 = 3", "sheet 0 1 4 = 1",

@@ -7,7 +7,6 @@ import java.util.TreeMap;
 
 /** Runs of calls by fixed seeds on the class and on the oracle: each answer must be the same. */
 public final class RandomRunsTest {
-    private static final int MOST_CALLS = 512;
     /** Of each call the kinds of its numbers: see number(). */
     private static final Map<String, String> CALLS = new TreeMap<>();
 
@@ -35,7 +34,7 @@ public final class RandomRunsTest {
     }
 
     private long both(String name, int... a) {
-        if (wrong || log.size() >= MOST_CALLS) return 0;
+        if (wrong || log.size() >= Subject.MOST_CALLS) return 0;
         long due = oracle.call(name, a);
         long got;
         try {
@@ -186,7 +185,7 @@ public final class RandomRunsTest {
     private boolean mixedRun() {
         tell(goodText());
         if (random.nextInt(6) == 0) for (int i = 0; i < 20; i++) both("hours", 48);
-        for (int i = 0; i < 400 && log.size() < MOST_CALLS && !wrong; i++) {
+        for (int i = 0; i < 400 && log.size() < Subject.MOST_CALLS && !wrong; i++) {
             int die = random.nextInt(60);
             if (die == 0) tell(random.nextBoolean() ? goodText() : spoilt(goodText()));
             else if (die <= 2) feel();

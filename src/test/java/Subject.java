@@ -5,6 +5,8 @@ import java.util.Map;
 
 /** A new TongueRooms whose calls are made by their names. */
 final class Subject {
+    /** What later calls answer is free, so that no test may ask for it. */
+    static final int MOST_CALLS = 512;
     private static final Map<String, Method> BY_NAME = new HashMap<>();
 
     static {
@@ -13,10 +15,13 @@ final class Subject {
         }
     }
 
-    private final TongueRooms rooms = new TongueRooms();
+    final TongueRooms rooms = new TongueRooms();
+    private int calls;
 
     /** What the call answers; whatever it throws is thrown on as a fault of the class. */
     long call(String name, int... a) {
+        calls++;
+        if (calls > MOST_CALLS) throw new IllegalStateException("more than " + MOST_CALLS + " calls");
         Object[] boxed = new Object[a.length];
         for (int i = 0; i < a.length; i++) boxed[i] = a[i];
         try {
